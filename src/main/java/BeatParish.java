@@ -38,7 +38,9 @@ public final class BeatParish {
     private boolean imaged = false;
     private final Deeds deeds = new Deeds();
     private final Sights sights = new Sights();
+    // what pack() reckons for each set of WORKS; 0 of the empty one
     private final int[] packed = new int[1 << MOST_WORKS];
+    // by how many beats a WORK would go on in each HOUR to come
     private final int[] gains = new int[MOST_GO];
 
     public BeatParish() {
@@ -368,10 +370,10 @@ public final class BeatParish {
         }
         int others = now.here & ~(1 << one) & ~(1 << other);
         int best = others;
-        for (int away = 0; away <= others; away++) {
+        for (int away = 0; away < others; away++) {
+            // a lesser one of as many went ahead
             boolean fewer = Integer.bitCount(away) < Integer.bitCount(best);
-            boolean least = Integer.bitCount(away) == Integer.bitCount(best) && away < best;
-            if ((away & ~others) == 0 && (fewer || least) && !has(told.reach(one, now.here & ~away), other)) {
+            if ((away & ~others) == 0 && fewer && !has(told.reach(one, now.here & ~away), other)) {
                 best = away;
             }
         }
@@ -481,7 +483,6 @@ public final class BeatParish {
                 open |= 1 << work;
             }
         }
-        put(packed, 0, 0);
         for (int set = 1; set <= open; set++) {
             if ((set & ~open) == 0) {
                 put(packed, set, fewestDays(set, beats));
@@ -1619,17 +1620,13 @@ public final class BeatParish {
             }
         }
 
-        private void addSign(int kind) {
-            add(Reckoner.FIRST_SIGN + kind);
-        }
-
         /** An E, so many '(' being open; so do all that follow. */
         private void readEither(int open) {
             readBoth(open);
             for (int k = 0; k <= MOST_KNOTS && sees(Tokens.OR); k++) {
                 takeKnot();
                 readBoth(open);
-                addSign(Tokens.OR);
+                add(Reckoner.FIRST_SIGN + Tokens.OR);
             }
         }
 
@@ -1638,7 +1635,7 @@ public final class BeatParish {
             for (int k = 0; k <= MOST_KNOTS && sees(Tokens.AND); k++) {
                 takeKnot();
                 readNot(open);
-                addSign(Tokens.AND);
+                add(Reckoner.FIRST_SIGN + Tokens.AND);
             }
         }
 
@@ -1650,7 +1647,7 @@ public final class BeatParish {
             }
             readComparison(open);
             for (int k = 0; k < nots; k++) {
-                addSign(Tokens.NOT);
+                add(Reckoner.FIRST_SIGN + Tokens.NOT);
             }
         }
 
@@ -1660,7 +1657,7 @@ public final class BeatParish {
             if (fault == 0 && sign >= Tokens.LESS && sign <= Tokens.MORE) {
                 takeKnot();
                 readSum(open);
-                addSign(sign);
+                add(Reckoner.FIRST_SIGN + sign);
             }
         }
 
@@ -1670,7 +1667,7 @@ public final class BeatParish {
                 int sign = tokens.kind;
                 takeKnot();
                 readProduct(open);
-                addSign(sign);
+                add(Reckoner.FIRST_SIGN + sign);
             }
         }
 
@@ -1680,7 +1677,7 @@ public final class BeatParish {
                 int sign = tokens.kind;
                 takeKnot();
                 readPart(open);
-                addSign(sign);
+                add(Reckoner.FIRST_SIGN + sign);
             }
         }
 
@@ -1794,12 +1791,13 @@ public final class BeatParish {
         private final int[] hours = new int[MOST];
         private final int[] works = new int[MOST];
         private final int[] beats = new int[MOST];
-        // bits
+        // those (bits) with at least so many beats; the others with fewer
         private int atLeasts = 0;
 
         void forget() {
             count = 0;
             knownBy = NONE;
+            atLeasts = 0;
         }
 
         int knownCount() {
@@ -1814,7 +1812,9 @@ public final class BeatParish {
             put(hours, count, hour);
             put(works, count, work);
             put(beats, count, beat);
-            atLeasts = atLeast ? atLeasts | 1 << count : atLeasts & ~(1 << count);
+            if (atLeast) {
+                atLeasts |= 1 << count;
+            }
             count++;
             return count - 1;
         }

@@ -162,6 +162,8 @@ final class HoursTest {
         value("(" + billion + " * 1000) * (" + billion + " * 1000)", Long.MIN_VALUE);
         value("(0 - " + billion + " * 1000) * (" + billion + " * 1000)", Long.MIN_VALUE);
         value("(" + billion + " * 999) * (" + billion + " * 18)", Long.MIN_VALUE);
+        // 2 to the 64, which is 0 in a long
+        value("(256 * 256 * 256 * 256) * (256 * 256 * 256 * 256)", Long.MIN_VALUE);
         value("1 / 0", Long.MIN_VALUE);
         value("0 / 0", Long.MIN_VALUE);
         value("1 or 1 / 0", Long.MIN_VALUE);

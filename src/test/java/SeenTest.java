@@ -7,6 +7,7 @@ final class SeenTest {
         seeing();
         full();
         shifts();
+        ofAnotherText();
         strikes();
         fromTheText();
         chance();
@@ -82,6 +83,17 @@ final class SeenTest {
         Check.due("P39 by the first two", x.shifts(), 0);
         x.known(0);
         Check.due("P39 by none", x.shifts(), 1023);
+    }
+
+    private static void ofAnotherText() {
+        BeatParish x = Check.parish("man a 9 0;work p a 100 1 0;speed 50;");
+        x.see(1, 0, 50, true);
+        x.strike(0);
+        x.known(1);
+        Check.tell(x, "man a 9 0;work p a 100 1 0;speed 50;");
+        Check.due("P39 nothing SEEN of another TEXT", x.shifts(), 1023);
+        x.see(1, 0, 50, false);
+        Check.due("P39 fewer in place of at least", x.shifts(), 1022);
     }
 
     private static int seen(BeatParish x, int hours, int beats, boolean atLeast) {

@@ -146,6 +146,10 @@ final class TextTest {
         Check.fault("man a 1 1;work p a 1 1 1", 1, 24);
         Check.fault("law;", 1, 3);
         Check.fault("law coil 1;", 1, 4);
+        Check.fault("law not 1;", 1, 4);
+        Check.fault("law law 1;", 1, 4);
+        Check.fault("law x 1;", 1, 4);
+        Check.fault("slip 1;", 1, 0);
         BeatParish x = new BeatParish();
         Check.due("TOKENS side by side", Check.tell(x, "man a1 1;work b a1 1 1;law slip 3<>4;speed8;"), 4);
         Check.due("speed8", x.beat(), 8);

@@ -6,6 +6,7 @@ final class UndoTest {
     public static void main(String[] args) {
         undone();
         many();
+        manyKinds();
         hours();
         images();
         counts();
@@ -64,6 +65,32 @@ final class UndoTest {
             Check.due("P42 SHIFT", x.count(6), k + 5);
         }
         Check.due("P42 the first five are not undone", x.undo(), -1);
+    }
+
+    /** 24 deeds of all kinds in turns: the first four, one of each kind, can't be undone. */
+    private static void manyKinds() {
+        BeatParish x = Check.parish("man a 5 0;man b 5 0;man c 5 0;spring 9;");
+        for (int k = 1; k <= 6; k++) {
+            x.shift(k);
+            x.wind(k);
+            x.hiccup(k % 2, k);
+            x.aunt(2, k % 2 == 1);
+        }
+        for (int k = 6; k >= 2; k--) {
+            Check.due("P42 the aunt, " + k, Check.man(x, 2, 4), k % 2 == 1 ? 0 : 1);
+            x.undo();
+            Check.due("P42 the aunt before, " + k, Check.man(x, 2, 4), k % 2 == 1 ? 1 : 0);
+            Check.due("P42 HICCUPS, " + k, Check.man(x, k % 2, 3), k);
+            x.undo();
+            Check.due("P42 HICCUPS before, " + k, Check.man(x, k % 2, 3), Math.max(0, k - 2));
+            Check.due("P42 COIL, " + k, x.count(5), 9 + k * (k + 1) / 2);
+            x.undo();
+            Check.due("P42 COIL before, " + k, x.count(5), 9 + k * (k - 1) / 2);
+            x.undo();
+            Check.due("P42 SHIFT before, " + k, x.count(6), k - 1);
+        }
+        Check.due("P42 no more", x.undo(), -1);
+        Check.due("P42 the first aunt stays", Check.man(x, 2, 4), 0);
     }
 
     private static void hours() {
