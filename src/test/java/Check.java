@@ -61,6 +61,15 @@ final class Check {
         due("named zz behind " + text, x.named(0, letters("zz")), 0);
     }
 
+    /** A text that holds, on a new object. */
+    static BeatParish holds(String text, int lines) {
+        BeatParish x = new BeatParish();
+        due("text " + text, tell(x, text), lines);
+        due("fault(0) of " + text, x.fault(0), 0);
+        due("fault(1) of " + text, x.fault(1), -1);
+        return x;
+    }
+
     static int letters(String name) {
         int letters = 0;
         for (int i = 0; i < 6; i++) {

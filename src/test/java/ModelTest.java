@@ -2,7 +2,9 @@
 final class ModelTest {
     private static final int RUNS = 800;
     private static final int CALLS = 150;
-    private static final int BROKEN_TEXTS = 20000;
+    private static final int BROKEN_RUNS = 2000;
+    // an object is used for 512 calls at most
+    private static final int BROKEN_TEXTS = 10;
 
     private final Dice dice;
     private final BeatParish x = new BeatParish();
@@ -16,7 +18,9 @@ final class ModelTest {
         for (int run = 0; run < RUNS; run++) {
             new ModelTest(run).calls(run);
         }
-        new ModelTest(-1).brokenTexts();
+        for (int run = 1; run <= BROKEN_RUNS; run++) {
+            new ModelTest(-run).brokenTexts();
+        }
         Check.end();
     }
 
@@ -174,11 +178,11 @@ final class ModelTest {
     }
 
     private int man() {
-        return dice.in(20) ? dice.from(-2, 7) : dice.below(Math.max(1, x.count(0)));
+        return dice.in(20) ? dice.from(-2, 7) : dice.below(Math.max(1, y.count(0)));
     }
 
     private int work() {
-        return dice.in(20) ? dice.from(-2, 9) : dice.below(Math.max(1, x.count(2)));
+        return dice.in(20) ? dice.from(-2, 9) : dice.below(Math.max(1, y.count(2)));
     }
 
     /** Mostly within, sometimes just beyond or far beyond. */
@@ -223,10 +227,10 @@ final class ModelTest {
             case 12:
                 return both(x.back(), y.back());
             case 13:
-                n = within(0, x.count(11));
+                n = within(0, y.count(11));
                 return both(x.strike(n), y.strike(n));
             case 14:
-                n = within(-1, x.count(11));
+                n = within(-1, y.count(11));
                 return both(x.known(n), y.known(n));
             default:
                 int w = work();
