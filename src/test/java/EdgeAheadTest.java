@@ -23,7 +23,9 @@ final class EdgeAheadTest {
         goOn();
         startByLimits();
         startByLatest();
+        eachAsItGoes();
         nothingTold();
+        fewerTold();
         nothingChanged();
         Check.end();
     }
@@ -73,6 +75,13 @@ final class EdgeAheadTest {
         Check.due("P16 DONE more by 200", x.ahead(200, 3, 0), 2);
         Check.due("P16 left of one that is DONE", x.ahead(5, 0, 0), 0);
         Check.due("P16 left by none", x.ahead(0, 0, 2), 120);
+        x.go(1);
+        Check.due("P16 DONE more, two are", x.ahead(0, 3, 0), 0);
+        Check.due("P16 DONE more, two are, by 1", x.ahead(1, 3, 0), 1);
+        x.go(1);
+        Check.due("P16 DONE more, all are", x.ahead(200, 3, 0), 0);
+        x = Check.parish("man a 9 0;");
+        x.go(1);
         Check.due("P16 COIL by none", x.ahead(0, 2, 0), 199);
         Check.due("P16 COIL by 198", x.ahead(198, 2, 0), 1);
         Check.due("P16 COIL by 199", x.ahead(199, 2, 0), 0);
@@ -406,6 +415,11 @@ final class EdgeAheadTest {
         Check.due("P34 the last two are", x.startBy(1, 7), 5);
         Check.due("P34 the HOURS of HICCUPS are no beats", x.startBy(0, 6), -2);
         Check.due("P34 all three are 60", x.startBy(0, 7), 4);
+        // HICCUPS in the midst: a is free in HOUR 0, has them in 1 and 2, is free in 3
+        x = Check.parish("man a 9 0;man b 9 0;tie a b;work p a 120 1 0;work q a 121 1 0;law hush 2;");
+        x.hiccup(1, 1);
+        Check.due("P34 HICCUPS in the midst", x.startBy(0, 4), 0);
+        Check.due("P34 HICCUPS in the midst, one beat more", x.startBy(1, 4), -2);
         x = Check.parish("man a 9 0;work p a 120 1 0;spring 2;");
         Check.due("P34 while COIL is not 0", x.startBy(0, 9), 0);
         x = Check.parish("man a 9 0;work p a 121 1 0;spring 2;");
@@ -416,6 +430,94 @@ final class EdgeAheadTest {
         Check.due("P34 without WASPS", x.startBy(0, 9), 7);
         x.aunt(0, true);
         Check.due("P34 not HERE", x.startBy(0, 99), -2);
+    }
+
+    /** A WASP at 50 at least is a SPEED twice that, at less none; whatever the numbers are. */
+    private static void eachAsItGoes() {
+        String text = "man a 9 0;man b 15 0;tie a b;work p a 400 1 0;work q b 300 4 2;spring 300;law wear beat / 10;law hush beat / 10;"
+            + "law slip hour / 2 * (beat - fast);";
+        int[] wasps = {0, 1, 49, 50, 99, 100};
+        for (int wasp : wasps) {
+            for (int seed = 0; seed < 6; seed++) {
+                int speed = wasp >= 50 ? 40 : 20;
+                asItGoes(seed % 2, "as it goes, wasp " + wasp + ", seed " + seed,
+                    Check.parish(text + "speed 20;wasp " + wasp + ";seed " + seed + ";"),
+                    Check.parish(text + "speed " + speed + ";"), Check.parish(text + "speed 20;"));
+            }
+        }
+    }
+
+    private static void asItGoes(int hiccups, String what, BeatParish x, BeatParish y, BeatParish without) {
+        int[] hours = {1, 2, 3, 4, 5, 8, 15, 99};
+        x.hiccup(1, hiccups);
+        y.hiccup(1, hiccups);
+        without.hiccup(1, hiccups);
+        for (int n : hours) {
+            for (int one = 0; one < 2; one++) {
+                Check.due(what + ", left of " + one + " in " + n, x.ahead(n, 0, one), y.ahead(n, 0, one));
+                Check.due(what + ", SLIPS of " + one + " in " + n, x.ahead(n, 1, one), y.ahead(n, 1, one));
+                Check.due(what + ", OFF of " + one + " in " + n, x.off(one, n, 0), y.off(one, n, 0));
+                Check.due(what + ", OFF below of " + one + " in " + n, x.off(one, n, 1), y.off(one, n, 1));
+                Check.due(what + ", first SLIP in " + n, x.firstSlip(n, one), y.firstSlip(n, one));
+                Check.due(what + ", begin of " + one + " for " + n, x.startBy(one, n), y.startBy(one, n));
+                Check.due(what + ", DONE of " + one, x.done(one), y.done(one));
+            }
+            Check.due(what + ", COIL in " + n, x.ahead(n, 2, 0), y.ahead(n, 2, 0));
+            Check.due(what + ", DONE in " + n, x.ahead(n, 3, 0), y.ahead(n, 3, 0));
+            Check.due(what + ", CROWD in " + n, x.crowd(n), y.crowd(n));
+            for (int k = 1; k < 5; k++) {
+                Check.due(what + ", TRIED " + k + " in " + n, x.tried(k, 0, n), y.tried(k, 0, n));
+            }
+            Check.due(what + ", TRIED 0 in " + n, x.tried(0, 0, n), without.tried(0, 0, n));
+        }
+        Check.due(what + ", STOPS", x.stops(), y.stops());
+        Check.due(what + ", going on", x.goOn(), y.goOn());
+    }
+
+    /** Behind a TEXT with many those of an earlier one are none. */
+    private static void fewerTold() {
+        StringBuilder many = new StringBuilder("man a 9 9;man b 9 9;man c 9 9;man d 9 9;man e 9 9;man f 9 9;tie e f;");
+        for (char work = 'p'; work < 'x'; work++) {
+            many.append("work ").append(work).append(" f 90 5 0;");
+        }
+        BeatParish x = new BeatParish();
+        for (int k = 0; k < 3; k++) {
+            Check.tell(x, many.toString());
+        }
+        for (int k = 0; k < 2; k++) {
+            Check.tell(x, "man a 9 9;man b 9 9;work p a 90 5 0;work q a 80 5 0;");
+            for (int one = 2; one < 8; one++) {
+                Check.due("P16 no WORK " + one, x.ahead(1, 0, one), -1);
+                Check.due("P16 nobody " + one, x.ahead(1, 1, one), -1);
+                Check.due("P17 no WORK " + one, x.done(one), -1);
+                Check.due("P24 nobody " + one, x.off(one, 1, 1), -1);
+                Check.due("P34 no WORK " + one, x.startBy(one, 9), -1);
+                Check.due("P30 no WORK " + one + " behind", x.canon(0, one), -1);
+                Check.due("P30 no WORK " + one + " ahead", x.canon(one, 0), -1);
+                Check.due("P20 no WORK " + one, x.bars(1 << one), -1);
+                Check.due("P25 nobody " + one, x.rests(one, 0), -1);
+                Check.due("P26 nobody " + one, x.rest(0, one, 0), -1);
+                Check.due("P22 nobody " + one, x.cut(one, 0), -1);
+                Check.due("P27 nobody " + one, x.reaches(one), -1);
+                Check.due("P8 nobody " + one, x.tie(one, 5), -1);
+                Check.due("P6 nobody " + one, Check.man(x, one, 0), -100);
+                Check.due("P7 no WORK " + one, x.work(one, 0), -1);
+                Check.due("P36 no WORK " + one, x.see(1, one, 5, true), -1);
+                Check.due("P40 no WORK " + one, x.chance(1, 1, one), -1);
+                Check.due("P41 nobody " + one, x.tried(2, one, 1), -1);
+                Check.due("P13 nobody " + one, x.hiccup(one, 1), false);
+                Check.due("P14 nobody " + one, x.aunt(one, true), false);
+                Check.due("P10 no WORK " + one, x.law(0, one), Long.MIN_VALUE);
+                Check.due("P5 nobody " + one, x.named(0, (char) one + 1 << 25), -1);
+                Check.due("P5 no WORK " + one, x.named(1, (char) one + 16 << 25), -1);
+            }
+            Check.due("P19 DONE of two", x.pace(2, 1), 2);
+            Check.due("P23 of two", x.crowd(200), 3);
+            Check.due("P29 of two", x.pack(90), 2);
+            Check.due("P35 of two", x.idle(), 2);
+            Check.due("P28 of two", x.slowest(), 0);
+            Check.due("P31 of two", x.strange(0, 0), 3);
+        }
     }
 
     private static void nothingTold() {

@@ -346,8 +346,25 @@ final class EdgeFaultTest {
             Check.due("P3 no WASPS of the TEXT ahead", x.go(2), 2);
             Check.due("P3 no WASPS, no SPEED of the TEXT ahead", x.work(0, 4), 879);
             Check.due("P3 no law of the TEXT ahead", Check.man(x, 0, 2), 6);
-            x.hiccup(0, 1);
             Check.due("P3 COIL without", x.count(5), 198);
+        }
+        noSeedOfEarlier(much);
+    }
+
+    private static void noSeedOfEarlier(String much) {
+        String wasps = "man a 9 0;work p a 999 1 0;speed 20;wasp 50;";
+        for (int texts = 1; texts <= 4; texts++) {
+            BeatParish x = new BeatParish();
+            for (int k = 0; k < texts; k++) {
+                Check.tell(x, much);
+            }
+            Check.tell(x, wasps);
+            BeatParish y = Check.parish(wasps);
+            for (int hour = 0; hour < 12; hour++) {
+                x.go(1);
+                y.go(1);
+                Check.due("P3 no seed of the TEXT ahead, HOUR " + hour, x.work(0, 4), y.work(0, 4));
+            }
         }
     }
 

@@ -27,6 +27,7 @@ final class EdgeHoursTest {
         values();
         errors();
         overflow();
+        deep();
         askedOfPeople();
         askedOfWorks();
         askedOfTies();
@@ -517,6 +518,18 @@ final class EdgeHoursTest {
 
     private static String power(int of2) {
         return "4096 * ".repeat(of2 / 12) + (1 << of2 % 12);
+    }
+
+    /** As deep as 8 '(' and 64 KNOTS go. */
+    private static void deep() {
+        value("1 + 2 * (".repeat(8) + "5" + ")".repeat(8), 256 * 5 + 255);
+        value("9999 - 2 * (".repeat(8) + "0" + ")".repeat(8), -849915);
+        // 31 values at once
+        value("0 or 1 and 1 < 1 + 1 * (".repeat(6) + "1" + ")".repeat(6), 1);
+        value("0 or 1 and 1 < 0 + 1 * (".repeat(6) + "9" + ")".repeat(6), 0);
+        value("0 or 1 and 0 < 0 + 1 * (".repeat(6) + "9" + ")".repeat(6), 1);
+        value("0 or 1 and 0 < 0 + 1 * (".repeat(6) + "0" + ")".repeat(6), 0);
+        value("0 or 1 and 0 <= 0 - 1 * (".repeat(6) + "1 / 0" + ")".repeat(6), ERROR);
     }
 
     private static void askedOfPeople() {
