@@ -22,7 +22,9 @@ final class EdgeHoursTest {
         hushBetween();
         hiccupsAsTheyWere();
         hiccupsOfWhom();
+        hushAheadOfWear();
         wearBetween();
+        wearOfNobody();
         names();
         values();
         errors();
@@ -319,6 +321,43 @@ final class EdgeHoursTest {
         x.go(1);
         Check.due("P15 with BEAT 0, too", Check.man(x, 1, 3), 4);
         Check.due("P15 one HOUR less with BEAT 0, too", Check.man(x, 0, 3), 2);
+    }
+
+    /** (3) goes ahead of (4): COIL of hush is as it was in (2), and so is the HOUR. */
+    private static void hushAheadOfWear() {
+        BeatParish x = Check.parish("man a 9 0;man b 9 0;man c 9 0;tie a b;tie a c;work p c 999 1 0;spring 9;law wear 4;"
+            + "law hush coil;law slip coil;");
+        x.hiccup(0, 9);
+        Check.due("P10 hush by COIL", x.law(2, 1), 9);
+        x.go(1);
+        Check.due("P15 HICCUPS by COIL ahead of wear", Check.man(x, 1, 3), 9);
+        Check.due("P15 SLIPS by COIL ahead of wear", Check.man(x, 2, 2), 9);
+        Check.due("P45 COIL behind it", x.count(5), 5);
+        x = Check.parish("man a 9 0;man b 9 0;tie a b;spring 4;law wear 4;law hush coil + 10 * (beat = 0);");
+        x.hiccup(0, 9);
+        x.go(1);
+        Check.due("P15 HICCUPS by the last COIL", Check.man(x, 1, 3), 4);
+        Check.due("P45 COIL 0 behind it", x.count(5), 0);
+        x = Check.parish("man a 9 0;man b 9 0;tie a b;law hush 5 + hour;law wear hour;");
+        x.go(2);
+        x.hiccup(0, 9);
+        x.go(1);
+        Check.due("P15 HICCUPS by this HOUR", Check.man(x, 1, 3), 7);
+        Check.due("P45 COIL by the HOURS 0, 1, 2", x.count(5), 197);
+    }
+
+    /** NAMES of wear: those of a PERSON and a WORK are 0, whoever slipped or got HICCUPS in (2) and (3). */
+    private static void wearOfNobody() {
+        String[] es = {"7 + 90 * fast + 90 * aged", "7 + 90 * left + 90 * bar", "7 + fast + aged + left + bar"};
+        for (String e : es) {
+            BeatParish x = Check.parish("man a 9 30;man b 8 40;man c 7 50;tie a b;work p c 999 12 0;law wear " + e + ";");
+            x.hiccup(0, 9);
+            Check.due("P16 COIL by " + e, x.ahead(1, 2, 0), 193);
+            x.go(1);
+            Check.due("P15 HICCUPS were given, " + e, Check.man(x, 1, 3), 3);
+            Check.due("P15 a WORK went on, " + e, x.work(0, 4), 939);
+            Check.due("P15 COIL by " + e, x.count(5), 193);
+        }
     }
 
     /** COIL is less by E of wear (put to 0 .. 99; 1 without, with an ERROR), 0 at least. */

@@ -15,6 +15,7 @@ final class EdgeSeenTest {
         strikesOfStrikes();
         nothingByCall();
         chanceLimits();
+        chanceFromNow();
         chanceDrawn();
         triedLimits();
         triedOf();
@@ -147,6 +148,33 @@ final class EdgeSeenTest {
         Check.due("P39 by six of seven", x.shifts(), 112);
         x.known(-1);
         Check.due("P39 by all seven", x.shifts(), 0);
+        seenButNotKnown();
+    }
+
+    /** What is SEEN is so by its number, whether KNOWN or not: it may be STRUCK, and the next number is behind it. */
+    private static void seenButNotKnown() {
+        BeatParish x = Check.parish("man a 9 0;work p a 90 1 0;speed 30;");
+        x.see(1, 0, 60, true);
+        x.see(1, 0, 60, false);
+        for (int n = 0; n <= 1; n++) {
+            Check.due("P38 by " + n, x.known(n), true);
+            Check.due("P37 one that isn't KNOWN by " + n, x.strike(1), 2 + n);
+            Check.due("P36 behind it, by " + n, x.count(12), n);
+        }
+        Check.due("P36 a number that isn't KNOWN", x.see(1, 0, 54, true), 4);
+        Check.due("P39 by the first", x.shifts(), 1);
+        Check.due("P38 by two", x.known(2), true);
+        Check.due("P39 by two", x.shifts(), 0);
+        Check.due("P38 by three", x.known(3), true);
+        Check.due("P39 by three, the second one STRUCK", x.shifts(), 1);
+        Check.due("P37 a STRIKE that isn't KNOWN", x.strike(3), 5);
+        Check.due("P37 none that is SEEN", x.strike(6), -1);
+        x.known(0);
+        Check.due("P37 the first one, none KNOWN", x.strike(0), 6);
+        Check.due("P39 none KNOWN", x.shifts(), 1023);
+        x.known(-1);
+        // the first two are STRUCK, 54 at least of 60 - s stay
+        Check.due("P39 all KNOWN", x.shifts(), 7);
     }
 
     /** 0, 3, 6, .. 27 (bits 0 .. 9). */
@@ -305,6 +333,41 @@ final class EdgeSeenTest {
         x.aunt(0, true);
         Check.due("P40 not HERE", x.chance(5, 99, 0), 0);
         Check.due("P40 none is told", new BeatParish().chance(5, 5, 0), -1);
+    }
+
+    /** N HOURS from now: by the HICCUPS, the SHIFT, the COIL and the HOUR that are, by who is HERE. */
+    private static void chanceFromNow() {
+        String told = "man a 9 0;man b 9 0;work p a 120 1 0;work q b 100 1 2;";
+        BeatParish x = Check.parish(told);
+        tenOrNone("P40 at first", x, 0, 2);
+        tenOrNone("P40 of one that begins at 2", x, 1, 4);
+        x.hiccup(0, 1);
+        tenOrNone("P40 HICCUPS for an HOUR", x, 0, 3);
+        x.hiccup(0, 9);
+        tenOrNone("P40 HICCUPS for nine", x, 0, 11);
+        x.hiccup(0, 0);
+        x.shift(-30);
+        tenOrNone("P40 SHIFT -30", x, 0, 4);
+        x.shift(60);
+        tenOrNone("P40 SHIFT 60", x, 0, 1);
+        x.shift(0);
+        x.aunt(1, true);
+        tenOrNone("P40 another one away", x, 0, 2);
+        Check.due("P40 who is away", x.chance(3, 99, 1), 0);
+        x.aunt(1, false);
+        x.go(1);
+        tenOrNone("P40 in HOUR 1", x, 0, 1);
+        tenOrNone("P40 in HOUR 1, of one that begins at 2", x, 1, 3);
+        x = Check.parish(told + "spring 1;");
+        Check.due("P40 COIL for an HOUR", x.chance(3, 99, 0), 0);
+        x.wind(1);
+        tenOrNone("P40 COIL for two", x, 0, 2);
+    }
+
+    /** Without WASPS a WORK is DONE each time, from a number of HOURS on. */
+    private static void tenOrNone(String what, BeatParish x, int work, int hours) {
+        Check.due(what + ", an HOUR less", x.chance(3, Math.max(1, hours - 1), work), hours == 1 ? 10 : 0);
+        Check.due(what, x.chance(3, hours, work), 10);
     }
 
     /** Numbers from a seed on, one behind another, through all ten times; those of the parish stay. */
@@ -618,6 +681,9 @@ final class EdgeSeenTest {
         x.known(1);
         x.back();
         Check.due("P45 KNOWN by one", x.count(12), 1);
+        x.keep();
+        Check.due("P45 KNOWN by one behind keep", x.count(12), 1);
+        Check.due("P45 SEEN behind keep", x.count(11), 3);
         Check.due("P4 the FAULT stays", x.fault(0), 1);
         Check.due("P4 its place stays", x.fault(1), 0);
         Check.due("P2 the TAPE stays", Check.feed(x, "speed 8;"), 40);
@@ -644,6 +710,12 @@ final class EdgeSeenTest {
             Check.due("P45 count(" + what + ") of none", x.count(what), none[what]);
             Check.due("P45 count(" + what + ")", y.count(what), some[what]);
         }
+        y.aunt(1, true);
+        y.aunt(0, true);
+        Check.due("P45 SLIPS of all, who isn't HERE, too", y.count(8), 15);
+        Check.due("P45 HICCUPS of nobody", y.count(9), 0);
+        Check.due("P45 nobody HERE", y.count(10), 0);
+        Check.due("P45 DONE, whose PERSON isn't HERE, too", y.count(7), 1);
         for (int what : others) {
             Check.due("P45 count(" + what + ") of none", x.count(what), -1);
             Check.due("P45 count(" + what + ")", y.count(what), -1);

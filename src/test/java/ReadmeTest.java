@@ -1,0 +1,95 @@
+import java.io.ByteArrayOutputStream;
+import java.io.IOException;
+import java.io.PrintStream;
+import java.lang.reflect.InvocationTargetException;
+import java.net.URL;
+import java.net.URLClassLoader;
+import java.nio.file.Files;
+import java.nio.file.Path;
+import java.util.ArrayList;
+import java.util.List;
+import java.util.TreeSet;
+import java.util.regex.Matcher;
+import java.util.regex.Pattern;
+import java.util.stream.Stream;
+import javax.tools.ToolProvider;
+
+/** README.md: its example compiles as it stands and prints what it says, its table names each test. */
+final class ReadmeTest {
+    private static final Path README = Path.of("README.md");
+    private static final Path TESTS = Path.of("src/test/java");
+
+    private ReadmeTest() {
+    }
+
+    public static void main(String[] args) throws Exception {
+        String readme = Files.readString(README);
+        example(readme);
+        table(readme);
+        Check.end();
+    }
+
+    private static void example(String readme) throws IOException, ReflectiveOperationException {
+        Matcher block = Pattern.compile("```java\n(.*?)```", Pattern.DOTALL).matcher(readme);
+        Check.due("README has an example", block.find(), true);
+        String source = block.group(1);
+        List<String> due = new ArrayList<>();
+        Matcher shown = Pattern.compile("show\\(.*\\); *// ([^:\n]*)").matcher(source);
+        while (shown.find()) {
+            due.add(shown.group(1).trim());
+        }
+        Check.due("calls whose answer README tells", due.size() >= 20, true);
+        List<String> got = List.of(printed(source).split("\n"));
+        Check.due("lines that the example prints", got.size(), due.size());
+        for (int i = 0; i < due.size() && i < got.size(); i++) {
+            Check.due("line " + i + " of the example: " + got.get(i) + ", README says " + due.get(i), got.get(i).equals(due.get(i)),
+                true);
+        }
+    }
+
+    /** What the example prints when it is compiled and run by itself. */
+    private static String printed(String source) throws IOException, ReflectiveOperationException {
+        Path folder = Files.createTempDirectory("readme");
+        Path file = folder.resolve("Example.java");
+        Files.writeString(file, source);
+        int wrong = ToolProvider.getSystemJavaCompiler().run(null, null, null, "-cp", System.getProperty("java.class.path"), "-d",
+            folder.toString(), file.toString());
+        Check.due("the example compiles", wrong, 0);
+        ByteArrayOutputStream bytes = new ByteArrayOutputStream();
+        PrintStream out = System.out;
+        try (URLClassLoader loader = new URLClassLoader(new URL[] {folder.toUri().toURL()})) {
+            System.setOut(new PrintStream(bytes, true));
+            loader.loadClass("Example").getMethod("main", String[].class).invoke(null, (Object) new String[0]);
+        } catch (InvocationTargetException e) {
+            bytes.writeBytes(("threw " + e.getCause()).getBytes());
+        } finally {
+            System.setOut(out);
+            delete(folder);
+        }
+        return bytes.toString().replace("\r", "").trim();
+    }
+
+    private static void delete(Path folder) throws IOException {
+        try (Stream<Path> files = Files.list(folder)) {
+            for (Path file : files.toList()) {
+                Files.delete(file);
+            }
+        }
+        Files.delete(folder);
+    }
+
+    private static void table(String readme) throws IOException {
+        TreeSet<String> told = new TreeSet<>();
+        Matcher row = Pattern.compile("^\\| (\\w+Test) \\|", Pattern.MULTILINE).matcher(readme);
+        while (row.find()) {
+            told.add(row.group(1));
+        }
+        TreeSet<String> are = new TreeSet<>();
+        try (Stream<Path> files = Files.list(TESTS)) {
+            files.map(file -> file.getFileName().toString()).filter(name -> name.endsWith("Test.java"))
+                .forEach(name -> are.add(name.replace(".java", "")));
+        }
+        Check.due("README names " + told + ", there are " + are, told.equals(are), true);
+        Check.due("README tells how all tests are run", readme.contains("\n    bash .ci/run\n"), true);
+    }
+}
