@@ -1,5 +1,7 @@
 /** What the tests share: TEXTS told in letters, answers held against those that are due. */
 final class Check {
+    // a fault may make many answers wrong: the first ones tell enough
+    private static final int PRINTED = 60;
     private static int passed = 0;
     private static int failed = 0;
 
@@ -11,7 +13,9 @@ final class Check {
             passed++;
         } else {
             failed++;
-            System.out.println(call + " answered " + got + ", due is " + want);
+            if (failed <= PRINTED) {
+                System.out.println(call + " answered " + got + ", due is " + want);
+            }
         }
     }
 

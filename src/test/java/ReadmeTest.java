@@ -2,6 +2,8 @@ import java.io.ByteArrayOutputStream;
 import java.io.IOException;
 import java.io.PrintStream;
 import java.lang.reflect.InvocationTargetException;
+import java.lang.reflect.Method;
+import java.lang.reflect.Modifier;
 import java.net.URL;
 import java.net.URLClassLoader;
 import java.nio.file.Files;
@@ -14,7 +16,7 @@ import java.util.regex.Pattern;
 import java.util.stream.Stream;
 import javax.tools.ToolProvider;
 
-/** README.md: its example compiles as it stands and prints what it says, its table names each test. */
+/** README.md: its example compiles as it stands and prints what it says, its tables name each call and each test. */
 final class ReadmeTest {
     private static final Path README = Path.of("README.md");
     private static final Path TESTS = Path.of("src/test/java");
@@ -25,7 +27,9 @@ final class ReadmeTest {
     public static void main(String[] args) throws Exception {
         String readme = Files.readString(README);
         example(readme);
-        table(readme);
+        lines(readme);
+        calls(readme);
+        tests(readme);
         Check.end();
     }
 
@@ -78,7 +82,36 @@ final class ReadmeTest {
         Files.delete(folder);
     }
 
-    private static void table(String readme) throws IOException {
+    /** The LINES of the table, one behind another, are a TEXT. */
+    private static void lines(String readme) {
+        StringBuilder text = new StringBuilder();
+        int lines = 0;
+        Matcher row = Pattern.compile("^\\| `([a-z]+ [^`]*)` \\| [^|]* \\| ", Pattern.MULTILINE).matcher(readme);
+        while (row.find()) {
+            text.append(row.group(1)).append(";\n");
+            lines++;
+        }
+        Check.due("LINES of the table", lines, 11);
+        Check.holds(text.toString(), lines);
+    }
+
+    private static void calls(String readme) {
+        TreeSet<String> told = new TreeSet<>();
+        String table = readme.substring(readme.indexOf("| calls |"), readme.indexOf("## What calls answer"));
+        Matcher call = Pattern.compile("`(\\w+)`").matcher(table);
+        while (call.find()) {
+            Check.due("README names once " + call.group(1), told.add(call.group(1)), true);
+        }
+        TreeSet<String> are = new TreeSet<>();
+        for (Method method : BeatParish.class.getDeclaredMethods()) {
+            if (Modifier.isPublic(method.getModifiers())) {
+                are.add(method.getName());
+            }
+        }
+        Check.due("README names " + told + ", there are " + are, told.equals(are), true);
+    }
+
+    private static void tests(String readme) throws IOException {
         TreeSet<String> told = new TreeSet<>();
         Matcher row = Pattern.compile("^\\| (\\w+Test) \\|", Pattern.MULTILINE).matcher(readme);
         while (row.find()) {

@@ -65,6 +65,15 @@ final class StatesTest {
 
     private static List<StatesTest> all() {
         List<StatesTest> all = new ArrayList<>();
+        byText(all);
+        bySpring(all);
+        byPeople(all);
+        byBeat(all);
+        byCalls(all);
+        return all;
+    }
+
+    private static void byText(List<StatesTest> all) {
         all.add(new StatesTest("nothing told", ""));
         all.add(new StatesTest("no WORKS", "man a 9 9;man b 5 5;tie a b;speed 3;", "hiccup 0 4", "go 1")
             .is("count 2=0", "count 0=2"));
@@ -74,6 +83,9 @@ final class StatesTest {
             .is("count 0=6", "count 1=9", "count 2=8", "count 3=64", "count 10=6"));
         all.add(new StatesTest("as many as may be, going on", FULL, "go 7", "hiccup 3 9", "go 1", "aunt 4 true", "shift 20")
             .is("count 10=5", "count 9=3", "man 4 4=0", "count 6=20"));
+    }
+
+    private static void bySpring(List<StatesTest> all) {
         all.add(new StatesTest("COIL 0 from the TEXT on", SMALL.replace("spring 90", "spring 0") + LAWS, "shift 9", "hiccup 1 2")
             .is("count 5=0", "beat=0", "count 4=0"));
         all.add(new StatesTest("COIL 0 by HOURS", SMALL.replace("spring 90", "spring 3"), "shift 50", "go 5")
@@ -82,6 +94,11 @@ final class StatesTest {
             .is("count 5=0", "count 7=3"));
         all.add(new StatesTest("COIL 999", SMALL.replace("spring 90", "spring 999") + "law wear 0;", "go 2")
             .is("count 5=999", "count 4=2"));
+        all.add(hours("HOUR 9850", SMALL.replace("spring 90", "spring 999"), 9850).is("count 4=9850", "count 5=99"));
+        all.add(hours("HOUR 9900", SMALL, 9900).is("count 4=9900", "go 1=-1", "go 0=9900"));
+    }
+
+    private static void byPeople(List<StatesTest> all) {
         all.add(new StatesTest("all DONE", SMALL, "shift 40", "go 15", "keep", "hiccup 1 3").is("count 7=3", "count 5=75"));
         all.add(new StatesTest("one DONE", SMALL, "go 4", "shift 7").is("count 7=1", "work 2 5=1"));
         all.add(new StatesTest("nobody HERE", SMALL + LAWS, "go 1", "aunt 0 true", "aunt 1 true", "aunt 2 true", "shift 4")
@@ -93,6 +110,9 @@ final class StatesTest {
         String later = SMALL.replace(" 0;work", " 99;work").replace("3 1;", "3 98;").replace("6 0;", "6 50;");
         all.add(new StatesTest("not begun", later,
             "shift 1", "go 2").is("goOn=0", "count 7=0", "work 1 3=98"));
+    }
+
+    private static void byBeat(List<StatesTest> all) {
         all.add(new StatesTest("SHIFT 99", FULL, "shift 99", "go 1").is("count 6=99"));
         all.add(new StatesTest("SHIFT -99", FULL, "go 2", "shift -99").is("count 6=-99", "beat=1"));
         all.add(new StatesTest("BEAT 199", SMALL.replace("speed 40;speed 75;", "speed 199;") + LAWS, "shift 50", "hiccup 2 1")
@@ -100,25 +120,23 @@ final class StatesTest {
         all.add(new StatesTest("wasp 100", FULL.replace("wasp 50", "wasp 100"), "hiccup 2 1", "go 2", "shift 3"));
         all.add(new StatesTest("wasp 49", FULL.replace("wasp 50", "wasp 49"), "hiccup 2 2", "go 2", "shift -3", "aunt 2 true"));
         all.add(new StatesTest("wasp 0", FULL.replace("wasp 50", "wasp 0"), "go 9", "shift -3", "aunt 2 true", "aunt 2 false"));
-        all.add(hours("HOUR 9850", SMALL.replace("spring 90", "spring 999"), 9850).is("count 4=9850", "count 5=99"));
-        all.add(hours("HOUR 9900", SMALL, 9900).is("count 4=9900", "go 1=-1", "go 0=9900"));
+    }
+
+    private static void byCalls(List<StatesTest> all) {
         all.add(seen("24 SEEN", "known 20").is("count 11=24", "count 12=20", "shifts=30"));
         all.add(seen("24 SEEN, none KNOWN", "known 0").is("count 11=24", "count 12=0", "shifts=1023"));
         all.add(seen("24 SEEN, all KNOWN").is("count 11=24", "count 12=24", "shifts=1022"));
         all.add(deeds("20 deeds", 20).is("count 13=20"));
         all.add(deeds("21 deeds", 21).is("count 13=20"));
         all.add(new StatesTest("an IMAGE", SMALL + LAWS, "shift 5", "go 3", "hiccup 0 2", "keep", "go 2", "shift 9",
-            "see 3 0 200 true")
-            .is("count 4=5", "count 11=1"));
+            "see 3 0 200 true").is("count 4=5", "count 11=1"));
         all.add(new StatesTest("behind back", FULL, "shift 5", "go 3", "hiccup 0 2", "keep", "go 9", "shift 9", "aunt 5 true",
-            "back")
-            .is("count 4=3", "count 13=0"));
+            "back").is("count 4=3", "count 13=0"));
         all.add(new StatesTest("behind undo", SMALL + LAWS, "hiccup 0 2", "shift 5", "aunt 0 true", "undo", "wind 5", "undo"));
         all.add(new StatesTest("behind a FAULT", SMALL + LAWS, "go 2", "hiccup 1 3", "keep", "wind 4", "text man z 9 9;work 8",
             "tape speed 8;").is("fault 0=1", "fault 1=15", "count 13=2"));
         all.add(new StatesTest("behind another TEXT", FULL, "go 9", "keep", "see 5 3 8 true", "known 1", "wind 1",
             "text " + SMALL + LAWS, "shift 9").is("count 0=3", "count 3=25", "fault 0=0"));
-        return all;
     }
 
     private static StatesTest hours(String name, String text, int hours) {
@@ -201,7 +219,7 @@ final class StatesTest {
                 long got = answer(x, FIRSTS, call);
                 long due = answer(y, SECONDS, call);
                 // there are many calls, and the words are for those that are wrong
-                Check.due(got == due ? name : name + ", behind " + calls, got, due);
+                Check.due(got == due ? name : name + ", .. " + calls.subList(Math.max(0, calls.size() - 9), calls.size()), got, due);
             }
             return this;
         }
