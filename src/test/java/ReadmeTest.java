@@ -1,11 +1,8 @@
-import java.io.ByteArrayOutputStream;
+import java.io.File;
 import java.io.IOException;
-import java.io.PrintStream;
-import java.lang.reflect.InvocationTargetException;
 import java.lang.reflect.Method;
 import java.lang.reflect.Modifier;
-import java.net.URL;
-import java.net.URLClassLoader;
+import java.nio.charset.StandardCharsets;
 import java.nio.file.Files;
 import java.nio.file.Path;
 import java.util.ArrayList;
@@ -14,7 +11,6 @@ import java.util.TreeSet;
 import java.util.regex.Matcher;
 import java.util.regex.Pattern;
 import java.util.stream.Stream;
-import javax.tools.ToolProvider;
 
 /** README.md: its example compiles as it stands and prints what it says, its tables name each call and each test. */
 final class ReadmeTest {
@@ -33,7 +29,7 @@ final class ReadmeTest {
         Check.end();
     }
 
-    private static void example(String readme) throws IOException, ReflectiveOperationException {
+    private static void example(String readme) throws IOException, InterruptedException {
         Matcher block = Pattern.compile("```java\n(.*?)```", Pattern.DOTALL).matcher(readme);
         Check.due("README has an example", block.find(), true);
         String source = block.group(1);
@@ -52,25 +48,19 @@ final class ReadmeTest {
     }
 
     /** What the example prints when it is compiled and run by itself. */
-    private static String printed(String source) throws IOException, ReflectiveOperationException {
+    private static String printed(String source) throws IOException, InterruptedException {
         Path folder = Files.createTempDirectory("readme");
         Path file = folder.resolve("Example.java");
         Files.writeString(file, source);
-        int wrong = ToolProvider.getSystemJavaCompiler().run(null, null, null, "-cp", System.getProperty("java.class.path"), "-d",
-            folder.toString(), file.toString());
-        Check.due("the example compiles", wrong, 0);
-        ByteArrayOutputStream bytes = new ByteArrayOutputStream();
-        PrintStream out = System.out;
-        try (URLClassLoader loader = new URLClassLoader(new URL[] {folder.toUri().toURL()})) {
-            System.setOut(new PrintStream(bytes, true));
-            loader.loadClass("Example").getMethod("main", String[].class).invoke(null, (Object) new String[0]);
-        } catch (InvocationTargetException e) {
-            bytes.writeBytes(("threw " + e.getCause()).getBytes());
-        } finally {
-            System.setOut(out);
-            delete(folder);
-        }
-        return bytes.toString().replace("\r", "").trim();
+        String classes = System.getProperty("java.class.path");
+        Process javac = new ProcessBuilder("javac", "-cp", classes, "-d", folder.toString(), file.toString()).inheritIO().start();
+        Check.due("the example compiles", javac.waitFor(), 0);
+        Process java = new ProcessBuilder("java", "-cp", folder + File.pathSeparator + classes, "Example")
+            .redirectErrorStream(true).start();
+        String printed = new String(java.getInputStream().readAllBytes(), StandardCharsets.UTF_8);
+        Check.due("the example runs", java.waitFor(), 0);
+        delete(folder);
+        return printed.replace("\r", "").trim();
     }
 
     private static void delete(Path folder) throws IOException {
